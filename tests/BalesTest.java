@@ -180,6 +180,8 @@ public final class BalesTest {
         goesJust("a cart with others in its way", x, 0, 0, 12, 7, 8);
         x.turns(0, 1);
         goesJust("a roll with others in its way", x, 0, 0, 12, 7, 8);
+        x.set(1, 2, 7);
+        goesJust("a roll with one of the others right beside it", x, 0, 0, 12, 7);
         x.set(0, 2, 35);
         goesJust("a roll in a corner", x, 0, 29, 23, 17, 11, 5, 34, 33, 32, 31, 30);
         x.turns(0, 3);

@@ -7,6 +7,7 @@ public final class FutureTest {
         behind();
         behindAsDays();
         ends();
+        endsLate();
         spared();
         given();
         storm();
@@ -96,6 +97,47 @@ public final class FutureTest {
         }
     }
 
+    /** It ends on just the last day that is looked at, and a day too late. */
+    private static void endsLate() {
+        int[] late = {100, 101};
+        for (int day : late) {
+            HayBoard x = new HayBoard();
+            x.bale(5, 0, 35, 20);
+            // It can go to and fro alone, on every second day; the first time that cattle find it, it is gone.
+            x.bale(2, 1, 0, 3);
+            x.rule(2, 100);
+            x.seed(seedThatEnds(day));
+            DUE.is("ends behind " + day, x.ends(), day == 100 ? 100 : NONE);
+            for (int i = 0; i < day - 1; i++) {
+                x.days(1);
+            }
+            DUE.is("not yet", x.count(5), 2);
+            DUE.is("one more day", x.days(1), 1);
+        }
+    }
+
+    private static int seedThatEnds(int wanted) {
+        for (int seed = 0; ; seed++) {
+            int z = seed;
+            int day = 0;
+            int found = 0;
+            while (found == 0) {
+                day++;
+                z = next(next(z));
+                int place = day / 2 % 2 == 0 ? 0 : 7;
+                found = (z >>> 8) % 36 == place ? day : 0;
+                z = next(z);
+            }
+            if (found == wanted) {
+                return seed;
+            }
+        }
+    }
+
+    private static int next(int z) {
+        return z * 1103515245 + 12345;
+    }
+
     private static void spared() {
         HayBoard x = new HayBoard();
         DUE.is("no bales", x.spared(1, 0), NONE);
@@ -116,6 +158,12 @@ public final class FutureTest {
         DUE.is("n 13", x.spared(13, 0), BAD);
         DUE.is("what 2", x.spared(1, 2), BAD);
         DUE.is("what -1", x.spared(1, -1), BAD);
+        // Now they stand side by side with a third one: who is gone can neither take nor be taken.
+        x.bale(0, 1, 1, 10);
+        // Without 0: -40; without 1: 45 by taking 2, so -45 for its farm; without 2: 40 - 30 = 10 for farm 0.
+        DUE.is("behind a day", x.spared(1, 0), 1);
+        DUE.is("behind a day, lead", x.spared(1, 1), -45);
+        x.set(2, 2, 36);
         x.set(1, 2, 36);
         DUE.is("just one on the common", x.spared(1, 0), 0);
         x.set(0, 2, 36);
@@ -151,10 +199,25 @@ public final class FutureTest {
         DUE.is("what 2", y.given(1, 2), BAD);
         DUE.is("what -1", y.given(1, -1), BAD);
         DUE.is("it is only thought", y.told(1, 1), 0);
+        givenBehindDays();
         for (int i = 0; i < 3; i++) {
             y.set(i, 2, 36);
         }
         DUE.is("none of farm 0 on the common", y.given(1, 0), NONE);
+    }
+
+    private static void givenBehindDays() {
+        HayBoard x = new HayBoard();
+        x.bale(0, 0, 0, 20);
+        x.bale(5, 0, 1, 40);
+        x.bale(0, 0, 2, 8);
+        x.bale(0, 1, 35, 60);
+        x.turns(3, 5);
+        x.rule(0, 1);
+        // By n 1, farm 1 moves. Bale 0 as farm 1's takes 1 (rotten, 1): 8 - 40 - 1. Bale 1 as farm 1's can do
+        // nothing: 28 - 2. Bale 2 as farm 1's takes 1: 20 - 28 - 1.
+        DUE.is("behind a day", x.given(1, 0), 2);
+        DUE.is("behind a day, lead", x.given(1, 1), -9);
     }
 
     private static void storm() {

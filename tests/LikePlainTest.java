@@ -21,6 +21,8 @@ public final class LikePlainTest {
     private final PlainBoard plain = new PlainBoard();
     private final StringBuilder run = new StringBuilder();
     private int calls;
+    // Whether the numbers of a call are all drawn from the odd ones.
+    private boolean wild;
 
     private LikePlainTest(Due due, long seed) {
         this.due = due;
@@ -47,6 +49,7 @@ public final class LikePlainTest {
             call("rule", 2, lot.nextInt(101));
         }
         while (calls < most && due.allRight()) {
+            wild = lot.nextInt(12) == 0;
             switch (lot.nextInt(16)) {
                 case 0: feedText(); call("text"); break;
                 case 1: tellDays(); break;
@@ -130,11 +133,11 @@ public final class LikePlainTest {
 
     /** 0 to most, now and then another number. */
     private int upTo(int most) {
-        return lot.nextInt(30) == 0 ? ODD[lot.nextInt(ODD.length)] : lot.nextInt(most + 1);
+        return wild || lot.nextInt(30) == 0 ? ODD[lot.nextInt(ODD.length)] : lot.nextInt(most + 1);
     }
 
     private int aBale() {
-        return lot.nextInt(20) == 0 ? upTo(12) : lot.nextInt(Math.max(1, plain.s.bales.size()));
+        return wild || lot.nextInt(20) == 0 ? upTo(12) : lot.nextInt(Math.max(1, plain.s.bales.size()));
     }
 
     private int aNumber() {

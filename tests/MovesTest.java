@@ -66,6 +66,17 @@ public final class MovesTest {
         DUE.is("one is gone", x.moves(0), 2);
         DUE.is("farm 2", x.moves(2), BAD);
         DUE.is("farm -1", x.moves(-1), BAD);
+        HayBoard y = new HayBoard();
+        for (int i = 0; i < 12; i++) {
+            y.bale(1, 1, i < 6 ? 7 * i : 7 * (i - 6) + (i == 11 ? -5 * 6 : 1), 1);
+        }
+        int goes = 0;
+        for (int i = 0; i < 12; i++) {
+            for (int place = 0; place < 36; place++) {
+                goes += y.goes(i, place);
+            }
+        }
+        DUE.is("a crowd of rolls", y.moves(1), goes);
     }
 
     private static void bestAheadOne() {
@@ -88,6 +99,10 @@ public final class MovesTest {
         x.set(3, 2, 36);
         DUE.is("of several the least number", x.best(0, 1, 0), 8);
         DUE.is("none of the others", x.best(1, 2, 0), NONE);
+        x.set(2, 2, 1);
+        DUE.is("100 times the bale, and the place", x.best(0, 1, 0), 101);
+        DUE.is("2 ahead likewise", x.best(0, 2, 0), 101);
+        x.set(2, 2, 36);
         Due.text(x, "hay w * 5 + p");
         DUE.is("by place and how often it went", x.best(0, 1, 0), 20);
         DUE.is("lead then, by the text", x.best(0, 1, 1), 20 + 5);
@@ -111,6 +126,12 @@ public final class MovesTest {
         x.set(1, 2, 36);
         DUE.is("they have nothing at all", x.best(0, 2, 0), 8);
         DUE.is("they have no move", x.best(1, 2, 1), NONE);
+        HayBoard y = new HayBoard();
+        y.bale(0, 1, 14, 40);
+        y.bale(0, 0, 15, 10);
+        y.bale(1, 0, 17, 10);
+        DUE.is("farm 1, 2 ahead", y.best(1, 2, 0), 8);
+        DUE.is("farm 1, 2 ahead, lead", y.best(1, 2, 1), 11);
     }
 
     private static void threats() {
@@ -124,6 +145,16 @@ public final class MovesTest {
         DUE.is("to farm 1", x.threats(1), 16);
         x.set(1, 2, 36);
         DUE.is("bale 0 is free then", x.threats(0), 1 + 4);
+        x.set(4, 2, 29);
+        x.bale(0, 1, 34, 1);
+        DUE.is("by a roll in its row, by a bale beside it", x.threats(0), 1 + 4);
+        DUE.is("to two of farm 1", x.threats(1), 16 + 32);
+        x.set(3, 2, 36);
+        DUE.is("by the bale alone", x.threats(0), 4);
+        x.set(0, 2, 28);
+        x.set(2, 2, 36);
+        DUE.is("to two of farm 1, by bale 0 alone", x.threats(1), 16 + 32);
+        DUE.is("to bale 0", x.threats(0), 1);
         DUE.is("farm 2", x.threats(2), BAD);
         DUE.is("farm -1", x.threats(-1), BAD);
     }

@@ -111,6 +111,14 @@ public final class RowsTest {
         DUE.is("the bale is none any more", x.told(0, 0), BAD);
         DUE.is("its place is free", x.bale(1, 0, 9, 40), 0);
         x.bale(0, 1, 10, 30);
+        x.move(0, 10);
+        x.back();
+        x.bale(1, 0, 9, 40);
+        DUE.is("a new one never went", x.told(0, 4), 0);
+        DUE.is("a new one never took", x.told(0, 5), 0);
+        DUE.is("where the old one was is nothing", x.at(10), NONE);
+        whereAnOldOneWas();
+        x.bale(0, 1, 10, 30);
         x.rule(1, 30);
         x.rule(2, 20);
         x.seed(1234);
@@ -147,6 +155,18 @@ public final class RowsTest {
             }
             DUE.is("the place as it was", x.at(x.told(0, 2)), 0);
         }
+    }
+
+    private static void whereAnOldOneWas() {
+        HayBoard x = new HayBoard();
+        x.bale(0, 0, 0, 1);
+        x.keep();
+        x.bale(0, 1, 10, 30);
+        x.back();
+        x.set(0, 2, 10);
+        x.bale(0, 1, 11, 30);
+        DUE.is("one that came where an old one was stays", x.at(10), 0);
+        DUE.is("the new one", x.at(11), 1);
     }
 
     private static void whatAnImageLeaves() {

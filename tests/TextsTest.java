@@ -89,6 +89,15 @@ public final class TextsTest {
         faulty("  hays h", 2);
         faulty("ha y h", 0);
         faulty("Hay h", 0);
+        faulty("bay h", 0);
+        faulty("hoy h", 0);
+        faulty("hag h", 0);
+        faulty("wine h", 0);
+        faulty("find h", 0);
+        faulty("fin h", 0);
+        faulty("fees d", 0);
+        faulty("hayz h", 0);
+        faulty("haya h", 0);
         faulty("1 hay h", 0);
         faulty("(hay h)", 0);
         faulty("hayh", 0);
@@ -240,7 +249,12 @@ public final class TextsTest {
         given("8192*8192*32", Integer.MIN_VALUE);
         given("8192*8192*32/(0-1)", Integer.MIN_VALUE);
         given("8192*8192*32-1", Integer.MAX_VALUE);
-        given("d".repeat(1) + "+1".repeat(45), 52);
+        given("d" + "+1".repeat(45), 52);
+        HayBoard x = new HayBoard();
+        x.bale(0, 0, 0, 9);
+        x.days(5);
+        Due.text(x, "hay 0+h*100+w*10+p");
+        DUE.is("hay by all its names, and 0", x.told(0, 6), 900 + 30 + 1);
     }
 
     private static void textTold() {

@@ -779,7 +779,7 @@ public final class HayBoard {
         }
 
         void becomes(Common other) {
-            for (int i = 0; i < MOST_BALES; i++) {
+            for (int i = 0; i < other.many; i++) {
                 bales[i].becomes(other.bales[i]);
             }
             System.arraycopy(other.on, 0, on, 0, PLACES);
@@ -840,7 +840,7 @@ public final class HayBoard {
             added.hay = hay;
             added.went = 0;
             added.took = 0;
-            // What stood here before an IMAGE came back holds no PLACE any more.
+            // One that stood here before an IMAGE came back holds no PLACE any more.
             added.place = GONE;
             puts(number, place);
             many++;
@@ -1064,7 +1064,6 @@ public final class HayBoard {
         int key, pieces;
 
         void clear() {
-            key = HAY;
             pieces = 0;
             length = 0;
         }
