@@ -77,23 +77,25 @@ public final class FutureTest {
         x.rule(0, 1);
         DUE.is("a day later", x.ends(), 2);
         DUE.is("nothing changes", x.count(5) + x.count(1), 2);
-        // Eaten up behind just so many days: looked for among seeds.
-        HayBoard y = new HayBoard();
-        y.bale(5, 0, 0, 20);
-        y.bale(0, 1, 35, 99);
-        y.rule(2, 100);
+        endsAsTheDaysDo();
+    }
+
+    /** Eaten up behind just so many days, or not at all: looked for among seeds. */
+    private static void endsAsTheDaysDo() {
         int[] found = new int[2];
         for (int seed = 0; seed < 120 && (found[0] == 0 || found[1] == 0); seed++) {
-            y.seed(seed);
-            int n = y.ends();
+            HayBoard x = new HayBoard();
+            x.bale(5, 0, 0, 20);
+            x.bale(0, 1, 35, 99);
+            x.rule(2, 100);
+            x.seed(seed);
+            int n = x.ends();
             found[n == NONE ? 1 : 0]++;
-            y.keep();
             int days = 0;
-            for (; days < 100 && y.count(5) == 2; days++) {
-                y.days(1);
+            for (; days < 100 && x.count(5) == 2; days++) {
+                x.days(1);
             }
-            DUE.is("ends as the days do, seed " + seed, n, y.count(5) == 2 ? NONE : days);
-            y.back();
+            DUE.is("ends as the days do, seed " + seed, n, x.count(5) == 2 ? NONE : days);
         }
     }
 

@@ -75,7 +75,7 @@ public final class LikePlainTest {
         int want = plain.ask(name, a);
         int got;
         try {
-            got = answer(name, a);
+            got = Face.answer(board, name, a);
         } catch (RuntimeException e) {
             System.out.println(tail);
             throw e;
@@ -225,61 +225,6 @@ public final class LikePlainTest {
                 return expression(names, depth - 1) + blanks() + sign + blanks()
                     + expression(names, lot.nextInt(depth));
             }
-        }
-    }
-
-    // ---- the class, by the names of its calls
-
-    private int answer(String name, int[] a) {
-        switch (name) {
-            case "bale": return board.bale(a[0], a[1], a[2], a[3]);
-            case "told": return board.told(a[0], a[1]);
-            case "at": return board.at(a[0]);
-            case "goes": return board.goes(a[0], a[1]);
-            case "as": return board.as(a[0], a[1]);
-            case "turns": return board.turns(a[0], a[1]);
-            case "set": return board.set(a[0], a[1], a[2]);
-            case "rule": return board.rule(a[0], a[1]);
-            case "deal": return board.deal(a[0]);
-            case "seed": return board.seed(a[0]);
-            case "move": return board.move(a[0], a[1]);
-            case "moves": return board.moves(a[0]);
-            case "best": return board.best(a[0], a[1], a[2]);
-            case "threats": return board.threats(a[0]);
-            case "lead": return board.lead(a[0]);
-            case "days": return board.days(a[0]);
-            case "behind": return board.behind(a[0], a[1]);
-            case "ends": return board.ends();
-            case "spared": return board.spared(a[0], a[1]);
-            case "given": return board.given(a[0], a[1]);
-            case "storm": return board.storm(a[0], a[1], a[2]);
-            case "fee": return board.fee();
-            case "fine": return board.fine(a[0]);
-            default: return answerOfRows(name, a);
-        }
-    }
-
-    private int answerOfRows(String name, int[] a) {
-        switch (name) {
-            case "feed": return board.feed(a[0], a[1], a[2]);
-            case "trim": return board.trim(a[0]);
-            case "text": return board.text();
-            case "textTold": return board.textTold(a[0], a[1]);
-            case "why": return board.why(a[0]);
-            case "sheet": return board.sheet(a[0], a[1], a[2]);
-            case "mark": return board.mark(a[0], a[1], a[2]);
-            case "pour": return board.pour(a[0]);
-            case "reads": return board.reads(a[0]);
-            case "copy": return board.copy(a[0], a[1], a[2], a[3], a[4]);
-            case "lay": return board.lay(a[0], a[1], a[2]);
-            case "ask": return board.ask(a[0], a[1]);
-            case "item": return board.item(a[0], a[1]);
-            case "rest": return board.rest(a[0], a[1]);
-            case "tell": return board.tell(a[0]);
-            case "check": return board.check(a[0]);
-            case "keep": return board.keep();
-            case "back": return board.back();
-            default: return board.count(a[0]);
         }
     }
 }
